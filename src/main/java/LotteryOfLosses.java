@@ -78,7 +78,7 @@ public final class LotteryOfLosses {
             return lots.isIn(number) ? 1 : 0;
         }
         if (what == LOST_THINGS && isPerson(number)) {
-            return lots.lost[number];
+            return lots.lostBy(number);
         }
         return lots.told(number, what);
     }
@@ -283,7 +283,7 @@ public final class LotteryOfLosses {
             return STATE;
         }
         int was = lots.holderOf(ticket);
-        lots.holder[ticket] = one;
+        lots.hand(ticket, one);
         return was;
     }
 
@@ -305,7 +305,7 @@ public final class LotteryOfLosses {
     }
 
     public int led(int what) {
-        return deeds.led(what);
+        return deeds.tell(what);
     }
 
     public int image() {
@@ -456,16 +456,16 @@ public final class LotteryOfLosses {
     }
 
     private int whoMayHold(int ticket, int shelf, int one, int x) {
-        int was = lots.holder[ticket];
+        int was = lots.holderOf(ticket);
         int who = 0;
         for (int k = 0; k < PEOPLE; k++) {
-            lots.holder[ticket] = k;
+            lots.hand(ticket, k);
             thought.see(shelves, shelf);
             if (thought.lossOf(one) == x) {
                 who |= 1 << k;
             }
         }
-        lots.holder[ticket] = was;
+        lots.hand(ticket, was);
         return who;
     }
 
@@ -554,8 +554,34 @@ public final class LotteryOfLosses {
             return Integer.bitCount(in);
         }
 
+        void takeOut(int set) {
+            in &= ~set;
+        }
+
+        void putIn(int set) {
+            in |= set;
+        }
+
+        int thingOn(int number) {
+            return isTicket(number) ? thing[number] : 0;
+        }
+
+        boolean isBlank(int number) {
+            return isTicket(number) && blank[number] != 0;
+        }
+
         int holderOf(int number) {
             return isTicket(number) ? holder[number] : NOBODY;
+        }
+
+        void hand(int number, int one) {
+            if (isTicket(number)) {
+                holder[number] = one;
+            }
+        }
+
+        boolean isHeldBy(int number, int one) {
+            return isTicket(number) && (in >> number & 1) == 1 && holder[number] == one;
         }
 
         boolean canDraw(int m) {
@@ -573,20 +599,24 @@ public final class LotteryOfLosses {
         int heldBy(int one) {
             int held = 0;
             for (int i = 0; i < size; i++) {
-                if (isIn(i) && holder[i] == one) {
+                if (isHeldBy(i, one)) {
                     held++;
                 }
             }
             return held;
         }
 
+        int lostBy(int one) {
+            return isPerson(one) ? lost[one] : 0;
+        }
+
         boolean hasLost(int one, int itsThing) {
-            return isPerson(one) && isThing(itsThing) && (lost[one] >> itsThing & 1) == 1;
+            return isPerson(one) && (lost[one] >> itsThing & 1) == 1;
         }
 
         /** Whether the ticket's holder would lose the thing on it, were it drawn now. */
         boolean threatens(int number, int one) {
-            return isIn(number) && holder[number] == one && blank[number] == 0 && !hasLost(one, thing[number]);
+            return isHeldBy(number, one) && blank[number] == 0 && !hasLost(one, thing[number]);
         }
 
         int threatsTo(int one, int itsThing) {
@@ -723,20 +753,19 @@ public final class LotteryOfLosses {
             named[3] = thing;
             named[4] = one;
             named[5] = d;
-            int held = Math.max(-99, Math.min(99, value()));
-            known[place] = stamp << 8 | held + 128;
-            return held;
-        }
-
-        private int value() {
             int begin = 0;
-            for (int i = 0; i < lines; i++) {
-                if (middles[i] == begin || run(begin, middles[i]) != 0) {
-                    return run(middles[i], ends[i]);
+            int loss = 0;
+            boolean counted = false;
+            for (int i = 0; i < lines && !counted; i++) {
+                counted = middles[i] == begin || run(begin, middles[i]) != 0;
+                if (counted) {
+                    loss = run(middles[i], ends[i]);
                 }
                 begin = ends[i];
             }
-            return 0;
+            int held = Math.max(-99, Math.min(99, loss));
+            known[place] = stamp << 8 | held + 128;
+            return held;
         }
 
         private int run(int from, int to) {
@@ -749,7 +778,7 @@ public final class LotteryOfLosses {
                     }
                 } else if (step == -'!' || step == -NEGATIVE) {
                     if (high > 0) {
-                        stack[high - 1] = step == -'!' ? bit(stack[high - 1] == 0) : -stack[high - 1];
+                        stack[high - 1] = step == -NEGATIVE ? -stack[high - 1] : stack[high - 1] == 0 ? 1 : 0;
                     }
                 } else if (high > 1) {
                     high--;
@@ -761,21 +790,17 @@ public final class LotteryOfLosses {
 
         private static int joined(int sign, int a, int b) {
             switch (sign) {
-                case '|': return bit(a != 0 || b != 0);
-                case '&': return bit(a != 0 && b != 0);
-                case '<': return bit(a < b);
-                case '=': return bit(a == b);
-                case '>': return bit(a > b);
+                case '|': return a != 0 || b != 0 ? 1 : 0;
+                case '&': return a != 0 && b != 0 ? 1 : 0;
+                case '<': return a < b ? 1 : 0;
+                case '=': return a == b ? 1 : 0;
+                case '>': return a > b ? 1 : 0;
                 case '+': return a + b;
                 case '-': return a - b;
                 case '*': return a * b;
                 case '/': return b == 0 ? 0 : a / b;
                 default: return b == 0 ? 0 : a % b;
             }
-        }
-
-        private static int bit(boolean holds) {
-            return holds ? 1 : 0;
         }
     }
 
@@ -882,7 +907,7 @@ public final class LotteryOfLosses {
 
         private boolean operand(int open) {
             if (isDigitNext()) {
-                number();
+                write(number());
                 return true;
             }
             int name = took(Law.NAMES);
@@ -904,13 +929,13 @@ public final class LotteryOfLosses {
             return true;
         }
 
-        private void number() {
+        private int number() {
             int value = 0;
             for (int i = 0; i < MOST_DIGITS && isDigitNext(); i++) {
                 value = value * 10 + bytes[place] - '0';
                 place++;
             }
-            write(value);
+            return value;
         }
 
         private boolean isDigitNext() {
@@ -951,12 +976,12 @@ public final class LotteryOfLosses {
             in = lots.in;
             drawnThisYear = lots.drawnThisYear;
             for (int k = 0; k < PEOPLE; k++) {
-                lost[k] = lots.lost[k];
+                lost[k] = lots.lostBy(k);
                 held[k] = 0;
                 loss[k] = 0;
             }
-            for (int i = 0; i < lots.size; i++) {
-                int k = lots.holder[i];
+            for (int i = 0; i < lots.size(); i++) {
+                int k = lots.holderOf(i);
                 if (lots.isIn(i) && isPerson(k)) {
                     held[k]++;
                 }
@@ -978,8 +1003,8 @@ public final class LotteryOfLosses {
         /** One of several drawn at once: those of one draw count as held till all are drawn. */
         private void fall(int ticket) {
             int k = lots.holderOf(ticket);
-            if (isPerson(k) && lots.blank[ticket] == 0) {
-                int thing = lots.thing[ticket];
+            if (isPerson(k) && !lots.isBlank(ticket)) {
+                int thing = lots.thingOn(ticket);
                 if ((lost[k] >> thing & 1) == 0) {
                     loss[k] += rule.lossBy(k, thing, held[k], Integer.bitCount(lost[k]), drawnThisYear);
                     lost[k] |= 1 << thing;
@@ -1000,7 +1025,7 @@ public final class LotteryOfLosses {
 
         void fallTogether(int set) {
             begin();
-            for (int i = 0; i < lots.size; i++) {
+            for (int i = 0; i < lots.size(); i++) {
                 if ((set >> i & 1) == 1) {
                     fall(i);
                 }
@@ -1016,7 +1041,7 @@ public final class LotteryOfLosses {
         int utmostSet(int one, int m, boolean most) {
             int utmost = 0;
             int found = NOT;
-            for (int set = 0; set < 1 << lots.size; set++) {
+            for (int set = 0; set < 1 << lots.size(); set++) {
                 if (lots.isDrawOf(set, m)) {
                     int by = lossBySet(one, set);
                     if (found < 0 || (most ? by > utmost : by < utmost)) {
@@ -1030,7 +1055,7 @@ public final class LotteryOfLosses {
 
         int setsAbove(int one, int m, int x) {
             int above = 0;
-            for (int set = 0; set < 1 << lots.size; set++) {
+            for (int set = 0; set < 1 << lots.size(); set++) {
                 if (lots.isDrawOf(set, m) && lossBySet(one, set) > x) {
                     above++;
                 }
@@ -1111,7 +1136,7 @@ public final class LotteryOfLosses {
                 return 0;
             }
             int seen = 0;
-            for (int i = 0; i < lots.size; i++) {
+            for (int i = 0; i < lots.size(); i++) {
                 if (lots.isIn(i)) {
                     for (int j = Math.min(seen, m - 1); j >= 0; j--) {
                         drawNext(one, i, j);
@@ -1130,9 +1155,9 @@ public final class LotteryOfLosses {
         private void begin(int one, int m) {
             Arrays.fill(bitOf, 0);
             states = 1;
-            for (int i = 0; i < lots.size; i++) {
-                if (lots.threatens(i, one) && bitOf[lots.thing[i]] == 0) {
-                    bitOf[lots.thing[i]] = states;
+            for (int i = 0; i < lots.size(); i++) {
+                if (lots.threatens(i, one) && bitOf[lots.thingOn(i)] == 0) {
+                    bitOf[lots.thingOn(i)] = states;
                     states <<= 1;
                 }
             }
@@ -1143,9 +1168,9 @@ public final class LotteryOfLosses {
         }
 
         private void drawNext(int one, int ticket, int j) {
-            int thing = lots.thing[ticket];
+            int thing = lots.thingOn(ticket);
             int bit = lots.threatens(ticket, one) ? bitOf[thing] : 0;
-            int lostAhead = Integer.bitCount(lots.lost[one]);
+            int lostAhead = Integer.bitCount(lots.lostBy(one));
             for (int s = 0; s < states; s++) {
                 int from = j * states + s;
                 int to = (j + 1) * states + (s | bit);
@@ -1195,9 +1220,9 @@ public final class LotteryOfLosses {
                 return 0;
             }
             int before = means.sumOf(holder, m);
-            lots.holder[ticket] = NOBODY;
+            lots.hand(ticket, NOBODY);
             int after = means.sumOf(holder, m);
-            lots.holder[ticket] = holder;
+            lots.hand(ticket, holder);
             return before - after;
         }
 
@@ -1205,14 +1230,14 @@ public final class LotteryOfLosses {
             int was = lots.holderOf(ticket);
             int best = NOBODY;
             for (int k = 0; k < PEOPLE; k++) {
-                lots.holder[ticket] = k;
+                lots.hand(ticket, k);
                 int sum = means.sumOfAll(m);
                 if (best == NOBODY || sum < leastSum) {
                     leastSum = sum;
                     best = k;
                 }
             }
-            lots.holder[ticket] = was;
+            lots.hand(ticket, was);
             return best;
         }
 
@@ -1221,8 +1246,8 @@ public final class LotteryOfLosses {
                 meanSums[k] = means.sumOf(k, m);
             }
             int best = NOT;
-            for (int a = 0; a < lots.size; a++) {
-                for (int b = a + 1; b < lots.size; b++) {
+            for (int a = 0; a < lots.size(); a++) {
+                for (int b = a + 1; b < lots.size(); b++) {
                     if (canSwap(a, b) && gainBySwap(a, b, m) && (best == NOT || swappedSum < leastSum)) {
                         leastSum = swappedSum;
                         best = 20 * a + b;
@@ -1233,21 +1258,21 @@ public final class LotteryOfLosses {
         }
 
         private boolean canSwap(int a, int b) {
-            int k = lots.holder[a];
-            int l = lots.holder[b];
+            int k = lots.holderOf(a);
+            int l = lots.holderOf(b);
             return lots.isIn(a) && lots.isIn(b) && k != l && k != NOBODY && l != NOBODY;
         }
 
         /** Whether the swap hurts neither and helps one; what both lose then is left in swappedSum. */
         private boolean gainBySwap(int a, int b, int m) {
-            int k = lots.holder[a];
-            int l = lots.holder[b];
-            lots.holder[a] = l;
-            lots.holder[b] = k;
+            int k = lots.holderOf(a);
+            int l = lots.holderOf(b);
+            lots.hand(a, l);
+            lots.hand(b, k);
             int kSum = means.sumOf(k, m);
             int lSum = means.sumOf(l, m);
-            lots.holder[a] = k;
-            lots.holder[b] = l;
+            lots.hand(a, k);
+            lots.hand(b, l);
             swappedSum = kSum + lSum;
             return kSum <= meanSums[k] && lSum <= meanSums[l] && swappedSum < meanSums[k] + meanSums[l];
         }
@@ -1255,13 +1280,13 @@ public final class LotteryOfLosses {
         int bestCancel(int m) {
             int most = Math.min(m, lots.howManyIn() - 2);
             int best = NOT;
-            for (int a = 0; a < lots.size; a++) {
-                for (int b = a + 1; b < lots.size; b++) {
+            for (int a = 0; a < lots.size(); a++) {
+                for (int b = a + 1; b < lots.size(); b++) {
                     if (lots.cancelEachOther(a, b)) {
                         int both = 1 << a | 1 << b;
-                        lots.in &= ~both;
+                        lots.takeOut(both);
                         int sum = means.sumOfAll(most);
-                        lots.in |= both;
+                        lots.putIn(both);
                         if (best == NOT || sum < leastSum) {
                             leastSum = sum;
                             best = 20 * a + b;
@@ -1273,6 +1298,9 @@ public final class LotteryOfLosses {
         }
 
         void shareOut(int people, int m) {
+            if (people < 1 || people > MOST_SHARERS) {
+                return;
+            }
             int many = numberThoseIn();
             weighShares(people, m, many);
             int all = 1;
@@ -1300,7 +1328,7 @@ public final class LotteryOfLosses {
 
         private int numberThoseIn() {
             int many = 0;
-            for (int i = 0; i < lots.size; i++) {
+            for (int i = 0; i < lots.size(); i++) {
                 if (lots.isIn(i) && many < MOST_TO_SHARE_OUT) {
                     inNumbers[many++] = i;
                 }
@@ -1311,23 +1339,26 @@ public final class LotteryOfLosses {
         /** What each would lose by each set of tickets: who holds the others is no matter for that. */
         private void weighShares(int people, int m, int many) {
             for (int i = 0; i < many; i++) {
-                keptHolders[i] = lots.holder[inNumbers[i]];
+                keptHolders[i] = lots.holderOf(inNumbers[i]);
             }
             for (int share = 0; share < 1 << many; share++) {
                 for (int k = 0; k < people; k++) {
                     for (int i = 0; i < many; i++) {
-                        lots.holder[inNumbers[i]] = (share >> i & 1) == 1 ? k : NOBODY;
+                        lots.hand(inNumbers[i], (share >> i & 1) == 1 ? k : NOBODY);
                     }
                     shareSums[k << MOST_TO_SHARE_OUT | share] = means.sumOf(k, m);
                 }
             }
             for (int i = 0; i < many; i++) {
-                lots.holder[inNumbers[i]] = keptHolders[i];
+                lots.hand(inNumbers[i], keptHolders[i]);
             }
         }
 
         /** A way to share out tells the holders as the digits of a number, the first ticket's foremost. */
         private int greatestOf(int way, int people, int many) {
+            if (people < 1 || people > MOST_SHARERS) {
+                return 0;
+            }
             Arrays.fill(shares, 0);
             int rest = way;
             for (int i = many - 1; i >= 0; i--) {
@@ -1367,15 +1398,23 @@ public final class LotteryOfLosses {
         /** The worst of each set of people together. */
         private void findWorsts(int m) {
             boolean first = true;
-            for (int draw = 0; draw < 1 << lots.size; draw++) {
+            for (int draw = 0; draw < 1 << lots.size(); draw++) {
                 if (lots.isDrawOf(draw, m)) {
                     thought.fallTogether(draw);
+                    addUp();
                     for (int set = 1; set < 1 << PEOPLE; set++) {
-                        int least = Integer.numberOfTrailingZeros(set);
-                        together[set] = together[set & set - 1] + thought.lossOf(least);
                         worsts[set] = first ? together[set] : Math.max(worsts[set], together[set]);
                     }
                     first = false;
+                }
+            }
+        }
+
+        /** The losses in thought of each set of people together: those of a set without its last one are known by then. */
+        private void addUp() {
+            for (int k = 0; k < PEOPLE; k++) {
+                for (int others = 0; others < 1 << k; others++) {
+                    together[1 << k | others] = together[others] + thought.lossOf(k);
                 }
             }
         }
@@ -1386,11 +1425,11 @@ public final class LotteryOfLosses {
             int receiver = NOT;
             int own = 0;
             int others = 0;
-            for (int i = 0; i < lots.size; i++) {
-                if (lots.isIn(i) && lots.holder[i] == one) {
+            for (int i = 0; i < lots.size(); i++) {
+                if (lots.isHeldBy(i, one)) {
                     for (int k = 0; k < PEOPLE; k++) {
                         if (k != one) {
-                            lots.holder[i] = k;
+                            lots.hand(i, k);
                             int ownThen = thought.lossBySet(one, set);
                             int othersThen = thought.lossOf(k);
                             if (gift == NOT || ownThen < own || ownThen == own && othersThen > others) {
@@ -1401,7 +1440,7 @@ public final class LotteryOfLosses {
                             }
                         }
                     }
-                    lots.holder[i] = one;
+                    lots.hand(i, one);
                 }
             }
             return what == 0 ? gift : what == 1 ? receiver : own;
@@ -1436,8 +1475,8 @@ public final class LotteryOfLosses {
 
         private int wishedAway(int one) {
             int best = NOT;
-            for (int i = 0; i < lots.size; i++) {
-                if (lots.isIn(i) && lots.holder[i] == one && (best == NOT || isLovedMore(one, i, best))) {
+            for (int i = 0; i < lots.size(); i++) {
+                if (lots.isHeldBy(i, one) && (best == NOT || isLovedMore(one, i, best))) {
                     best = i;
                 }
             }
@@ -1446,7 +1485,7 @@ public final class LotteryOfLosses {
 
         private int wantedBy(int one, int offered) {
             int best = NOT;
-            for (int i = 0; i < lots.size; i++) {
+            for (int i = 0; i < lots.size(); i++) {
                 if ((offered >> i & 1) == 1 && (best == NOT || isLovedMore(one, best, i))) {
                     best = i;
                 }
@@ -1455,7 +1494,7 @@ public final class LotteryOfLosses {
         }
 
         private boolean isLovedMore(int one, int a, int b) {
-            return lots.love(one, lots.thing[a]) > lots.love(one, lots.thing[b]);
+            return lots.love(one, lots.thingOn(a)) > lots.love(one, lots.thingOn(b));
         }
     }
 
@@ -1497,18 +1536,18 @@ public final class LotteryOfLosses {
         }
 
         void cancelBoth(int a, int b) {
-            lots.in &= ~(1 << a | 1 << b);
+            lots.takeOut(1 << a | 1 << b);
             totals[CANCELLED] += 2;
         }
 
         int beginYear() {
-            lots.in = (1 << lots.size) - 1;
+            lots.putIn((1 << lots.size()) - 1);
             lots.drawnThisYear = 0;
             Arrays.fill(lots.lost, 0);
             return ++totals[YEARS];
         }
 
-        int led(int what) {
+        int tell(int what) {
             if (what >= DRAWN && what <= YEARS) {
                 return totals[what];
             }
@@ -1517,7 +1556,7 @@ public final class LotteryOfLosses {
 
         int keepImage() {
             hasImage = true;
-            imageSize = lots.size;
+            imageSize = lots.size();
             imageIn = lots.in;
             imageDrawnThisYear = lots.drawnThisYear;
             System.arraycopy(lots.holder, 0, imageHolders, 0, MOST_TICKETS);
