@@ -14,6 +14,7 @@ public final class PromisesTest {
         meansAndWorsts();
         plans();
         fairness();
+        allOfOne();
         doubts();
         toldAheadAndRings();
         yearsSeen();
@@ -249,6 +250,7 @@ public final class PromisesTest {
         fraction("11", x.more(0, 2000 + 999 + 9, 0), x.more(0, 2000 + 999 + 9, 1), 2, 3);
         fraction("11", x.more(0, 2000 + 998, 0), x.more(0, 2000 + 998, 1), 1, 1);
         fraction("11", x.more(0, 2000 + 1998, 0), x.more(0, 2000 + 1998, 1), 0, 1);
+        fraction("11: the least x", x.more(0, 0, 0), x.more(0, 0, 1), 1, 1);
         is("11: x", x.more(0, 1999, 0), NONE);
         is("11: m", x.more(0, 8999, 0), NONE);
         is("11: mx", x.more(0, -1, 0), NONE);
@@ -400,6 +402,26 @@ public final class PromisesTest {
         x.mend(40, 0, 95);
         is("18: two", x.syndicate(6), 48);
         is("18: by one draw all share the worst of each", x.syndicate(1), 62);
+    }
+
+    /** Promises 9 to 18 where one holds all twelve tickets and may lose all eight things, by each number of draws. */
+    private static void allOfOne() {
+        lots(0, 4, 1, 4, 2, 4, 3, 4, 4, 4, 5, 4, 6, 4, 7, 4, 0, 4, 1, 4, 2, 4, 3, 4);
+        for (int m = 0; m <= 12; m++) {
+            fraction("9: all of one", x.mean(4, m, 0), x.mean(4, m, 1), x.mean(-1, m, 0), x.mean(-1, m, 1));
+            is("10: all of one", x.worst(4, m, 0), 10 * Math.min(m, 8));
+            is("14: all of one", x.given(11, m, 2), m <= 1 ? 0 : 4);
+            is("15: all of one", x.swap(m), -2);
+            is("16: all of one", x.cancel(m), 8);
+            is("17: all of one", x.fairest(10 * m + 1, -2), -5);
+            is("18: all of one", x.syndicate(m), m == 0 ? 63 : 47);
+        }
+        fraction("9: all of one", x.mean(4, 12, 0), x.mean(4, 12, 1), 80, 1);
+        fraction("9: all of one", x.mean(4, 1, 0), x.mean(4, 1, 1), 10, 1);
+        fraction("9: all of one", x.mean(4, 2, 0), x.mean(4, 2, 1), 640, 33);
+        fraction("9: all of one", x.mean(4, 11, 0), x.mean(4, 11, 1), 230, 3);
+        fraction("13: all of one", x.rid(11, 12, 0), x.rid(11, 12, 1), 0, 1);
+        fraction("13: all of one", x.rid(7, 12, 0), x.rid(7, 12, 1), 10, 1);
     }
 
     /** Promises 19 to 21. */
