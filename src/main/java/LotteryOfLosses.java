@@ -728,7 +728,7 @@ public final class LotteryOfLosses {
             }
         }
 
-        /** The line's condition are its steps ahead of middle: none, if that is where it begins. */
+        /** A line's condition is its steps ahead of middle; it has none, if middle is where it begins. */
         void endLine(int middle) {
             if (lines < ends.length) {
                 middles[lines] = middle;
@@ -1410,7 +1410,7 @@ public final class LotteryOfLosses {
             }
         }
 
-        /** The losses in thought of each set of people together: those of a set without its last one are known by then. */
+        /** The losses in thought of each set of people together, from those of the set without its last one. */
         private void addUp() {
             for (int k = 0; k < PEOPLE; k++) {
                 for (int others = 0; others < 1 << k; others++) {

@@ -422,6 +422,22 @@ public final class PromisesTest {
         fraction("9: all of one", x.mean(4, 11, 0), x.mean(4, 11, 1), 230, 3);
         fraction("13: all of one", x.rid(11, 12, 0), x.rid(11, 12, 1), 0, 1);
         fraction("13: all of one", x.rid(7, 12, 0), x.rid(7, 12, 1), 10, 1);
+
+        // losses worked out for one thing, g and d must not be taken for those of another
+        lots(7, 0, 6, 0, 5, 0, 4, 0, 3, 0, 2, 0, 1, 0, 0, 0, 1, 0, 0, 0, 7, 0, 7, 0);
+        law("g*10+d");
+        is("8: eight things", x.loss(0, 0xff), 11 * (1 + 2 + 3 + 4 + 5 + 6 + 7));
+        for (int i = 0; i < 7; i++) {
+            x.mend(i, 3, 1);
+        }
+        is("8: behind seven blanks", x.loss(0, 0x17f), 7);
+        is("8: behind seven blanks", x.loss(0, 0x0ff), 7);
+        x.mend(10, 3, 1);
+        is("8: the last of twelve", x.loss(0, 0xfff), 7 + 18 + 31);
+        for (int i = 7; i < 11; i++) {
+            x.mend(i, 3, 1);
+        }
+        is("8: behind eleven blanks", x.loss(0, 0xfff), 11);
     }
 
     /** Promises 19 to 21. */
