@@ -2,8 +2,14 @@
 final class Due {
     private static int wrong = 0;
     private static int seen = 0;
+    private static String under = "";
 
     private Due() {
+    }
+
+    /** What the answers that follow are looked at for. */
+    static void under(String what) {
+        under = what.isEmpty() ? "" : "\"" + what + "\" ";
     }
 
     static void is(String call, long got, long want) {
@@ -11,9 +17,13 @@ final class Due {
         if (got != want) {
             wrong++;
             if (wrong <= 50) {
-                System.out.println(call + " answered " + got + ", due is " + want);
+                System.out.println(under + call + " answered " + got + ", due is " + want);
             }
         }
+    }
+
+    static int seen() {
+        return seen;
     }
 
     static void end() {
