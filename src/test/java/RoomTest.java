@@ -1,4 +1,11 @@
 import java.lang.management.ManagementFactory;
+import java.lang.reflect.Array;
+import java.lang.reflect.Field;
+import java.lang.reflect.Modifier;
+import java.util.ArrayList;
+import java.util.IdentityHashMap;
+import java.util.List;
+import java.util.Map;
 
 /** What a run makes: the rows are made with the object, and no call of the dearest kinds makes anything more. */
 public final class RoomTest {
@@ -13,7 +20,8 @@ public final class RoomTest {
         return THREADS.getThreadAllocatedBytes(Thread.currentThread().getId());
     }
 
-    public static void main(String[] args) {
+    public static void main(String[] args) throws Exception {
+        roomOfAnObject();
         LotteryOfLosses warm = new LotteryOfLosses();
         warm.mean(0, 0, 0);
         made();
@@ -47,6 +55,33 @@ public final class RoomTest {
         answers = dearest(x, 4);
         System.out.println("with one holder: " + (System.nanoTime() - begun) / 1000000 + " ms, " + answers);
         Due.end();
+    }
+
+    /** The dearest call is that of the constructor: 512 of them stay within the room of a run. */
+    private static void roomOfAnObject() throws Exception {
+        Map<Object, Object> seen = new IdentityHashMap<>();
+        List<Object> parts = new ArrayList<>(List.of(new LotteryOfLosses()));
+        int fields = 0;
+        while (!parts.isEmpty()) {
+            Object part = parts.remove(parts.size() - 1);
+            if (part == null || part instanceof String || seen.put(part, part) != null) {
+                continue;
+            }
+            if (part.getClass().isArray()) {
+                fields += Array.getLength(part);
+                continue;
+            }
+            for (Field field : part.getClass().getDeclaredFields()) {
+                if (!Modifier.isStatic(field.getModifiers())) {
+                    fields++;
+                    field.setAccessible(true);
+                    parts.add(field.getType().isPrimitive() ? null : field.get(part));
+                }
+            }
+        }
+        System.out.println("an object is " + seen.size() + " objects and arrays of " + fields + " fields and elements");
+        Due.is("512 of them within 600,000 objects", 512 * seen.size() <= 600_000 ? 1 : 0, 1);
+        Due.is("512 of them within 7.3 million fields", 512 * fields <= 7_300_000 ? 1 : 0, 1);
     }
 
     /** Sixteen calls a round. */

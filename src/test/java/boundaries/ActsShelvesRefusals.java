@@ -84,31 +84,36 @@ final class ActsShelvesRefusals extends Boundaries {
             act(49, 2, 7, 7 ^ 49, 11);
             act(49, 0, -49, 0, 1);
         });
-        test("BODIES of acts: TAKES (an interface of LOSS): 1 takes: x + n. LOSS: 10 grieves: takes(x) * 2. 11 keeps: x ^ n. TELLS (of LOSS): 2 tells: grieves(x) - keeps(1).", () -> {
+        test("BODIES of acts: TAKES (an interface of LOSS): 1 takes: x + n.", () -> {
             kinds();
-            act(0, 0, 7, 7, 1);
-            act(0, 1, 7, 14, 10, 1);
-            act(0, 2, 7, 7, 11);
-            act(0, 3, 7, 13, 2, 10, 1, 11);
             x.body(0);
+            act(0, 0, 7, 7, 1);
+            act(0, 0, MOST, MOST, 1);
             act(8, 0, 7, 15, 1);
+            act(8, 0, MOST, LEAST + 7, 1);
+        });
+        test("LOSS: 10 grieves: takes(x) * 2.", () -> {
+            kinds();
+            act(0, 1, 7, 14, 10, 1);
+            act(0, 1, MOST, -2, 10, 1);
+            x.body(0);
             act(8, 1, 7, 30, 10, 1);
+        });
+        test("11 keeps: x ^ n.", () -> {
+            kinds();
+            act(0, 2, 7, 7, 11);
+            x.body(0);
             act(8, 2, 12, 4, 11);
+            act(8, 2, -1, -9, 11);
+        });
+        test("TELLS (of LOSS): 2 tells: grieves(x) - keeps(1).", () -> {
+            kinds();
+            act(0, 3, 7, 13, 2, 10, 1, 11);
+            act(0, 3, LEAST, -1, 2, 10, 1, 11);
+            x.body(0);
             act(8, 3, 7, 21, 2, 10, 1, 11);
         });
-        test("HAT: 20 takes: super.takes(x) + 3. DAY: 30 grieves: -super.grieves(x). OPINION: 40 keeps: super.keeps(x) * 3. 41 grieves: super.grieves(x + 1). RIVER: 50 keeps: super.keeps(x) - takes(2). GRIEF: 60 tells: super.tells(x) ^ 5. BLANK: 70 takes: super.takes(x) * 2. GRAND: 80 grieves: super.grieves(x) + keeps(2). 81 tells: super.tells(x) - 1.", () -> {
-            kinds();
-            act(1, 0, 7, 11, 20, 1);
-            act(2, 1, 7, -18, 30, 10, 1);
-            act(3, 2, 7, 12, 40, 11);
-            act(3, 1, 7, -22, 41, 30, 10, 1);
-            act(4, 2, 7, 3 - 9, 50, 11, 20, 1);
-            act(5, 3, 7, (-26 - 12) ^ 5, 60, 2, 41, 30, 10, 1, 40, 11);
-            act(5, 3, 9, (-30 - 12) ^ 5, 60, 2, 41, 30, 10, 1, 40, 11);
-            act(6, 0, 7, 26, 70, 1);
-            act(7, 1, 7, 34 + (5 - 12), 80, 10, 20, 1, 50, 11, 20, 1);
-            act(7, 3, 7, 27 - (6 - 12) - 1, 81, 2, 80, 10, 20, 1, 50, 11, 20, 1, 50, 11, 20, 1);
-        });
+        ownBodies();
         test("takes(..) and so on: the body of its own KIND, or of the next KIND above that has one; super: from the KIND above the body's on.", () -> {
             kinds();
             act(1, 1, 7, 22, 10, 20, 1);
@@ -128,6 +133,52 @@ final class ActsShelvesRefusals extends Boundaries {
             act(6, 3, 7, 52 - 7, 2, 10, 70, 1, 11);
             act(7, 0, 7, 17, 20, 1);
             act(7, 2, 7, -12, 50, 11, 20, 1);
+        });
+    }
+
+    private static void ownBodies() {
+        test("HAT: 20 takes: super.takes(x) + 3.", () -> {
+            kinds();
+            act(1, 0, 7, 11, 20, 1);
+            act(1, 0, MOST, LEAST + 3, 20, 1);
+        });
+        test("DAY: 30 grieves: -super.grieves(x).", () -> {
+            kinds();
+            act(2, 1, 7, -18, 30, 10, 1);
+            act(2, 1, -2, 0, 30, 10, 1);
+        });
+        test("OPINION: 40 keeps: super.keeps(x) * 3.", () -> {
+            kinds();
+            act(3, 2, 7, 12, 40, 11);
+            act(3, 2, MOST, (MOST ^ 3) * 3, 40, 11);
+        });
+        test("41 grieves: super.grieves(x + 1).", () -> {
+            kinds();
+            act(3, 1, 7, -22, 41, 30, 10, 1);
+            act(3, 1, MOST, -((LEAST + 3) * 2), 41, 30, 10, 1);
+        });
+        test("RIVER: 50 keeps: super.keeps(x) - takes(2).", () -> {
+            kinds();
+            act(4, 2, 7, 3 - 9, 50, 11, 20, 1);
+            act(4, 2, LEAST, (LEAST ^ 4) - 9, 50, 11, 20, 1);
+        });
+        test("GRIEF: 60 tells: super.tells(x) ^ 5.", () -> {
+            kinds();
+            act(5, 3, 7, (-26 - 12) ^ 5, 60, 2, 41, 30, 10, 1, 40, 11);
+            act(5, 3, 9, (-30 - 12) ^ 5, 60, 2, 41, 30, 10, 1, 40, 11);
+        });
+        test("BLANK: 70 takes: super.takes(x) * 2.", () -> {
+            kinds();
+            act(6, 0, 7, 26, 70, 1);
+            act(6, 0, MOST, (MOST + 6) * 2, 70, 1);
+        });
+        test("GRAND: 80 grieves: super.grieves(x) + keeps(2).", () -> {
+            kinds();
+            act(7, 1, 7, 34 + (5 - 12), 80, 10, 20, 1, 50, 11, 20, 1);
+        });
+        test("81 tells: super.tells(x) - 1.", () -> {
+            kinds();
+            act(7, 3, 7, 27 - (6 - 12) - 1, 81, 2, 80, 10, 20, 1, 50, 11, 20, 1, 50, 11, 20, 1);
         });
     }
 

@@ -181,32 +181,66 @@ final class PeopleLawDraws extends Boundaries {
             fault("(1;2)", 2);
             fault("1?;2", 2);
         });
-        test("E = A { | A }. A = B { & B }. B = S, or S < S, S = S, S > S. S = P { + P, - P }. P = O { * O, / O, % O }.", () -> {
+        test("E = A { | A }.", () -> {
+            value("0|0|0|3", 1);
+            value("0|0|0|0", 0);
             value("1|0&0", 1);
             value("0&0|1", 1);
-            value("0|0|0|3", 1);
+            lots();
+            fault("v|", 2);
+            fault("|v", 0);
+            fault("v||v", 2);
+            fault("v|&v", 2);
+        });
+        test("A = B { & B }.", () -> {
+            value("1&1&1&2", 1);
             value("1&1&1&0", 0);
-            value("9-3-2", 4);
-            value("64/4/2", 8);
-            value("7*5%4", 3);
-            value("1+2*3", 7);
-            value("2*3+4", 10);
-            value("1+1=2", 1);
             value("1<2&3>2", 1);
             value("2&1<0", 0);
-            value("(3<2)=0|0", 1);
             value("3=2&0|1", 1);
+            lots();
+            fault("v&", 2);
+            fault("&v", 0);
+            fault("v&&v", 2);
+        });
+        test("B = S, or S < S, S = S, S > S.", () -> {
+            value("1+1=2", 1);
+            value("1<1+1", 1);
+            value("(3<2)=0|0", 1);
+            value("(3>2)>0", 1);
             lots();
             fault("1<2<3", 3);
             fault("1<2=1", 3);
             fault("1=1>0", 3);
-            fault("v|", 2);
-            fault("v|&v", 2);
-            fault("v+*v", 2);
-            fault("*v", 0);
-            fault("+v", 0);
+            fault("1>1>0", 3);
             fault("v<", 2);
+            fault("=v", 0);
             fault("v<=n", 2);
+        });
+        test("S = P { + P, - P }.", () -> {
+            value("9-3-2", 4);
+            value("9-3+2", 8);
+            value("1+2*3", 7);
+            value("2*3+4", 10);
+            value("9--3", 12);
+            lots();
+            fault("v+", 2);
+            fault("+v", 0);
+            fault("v++v", 2);
+            fault("v-+v", 2);
+        });
+        test("P = O { * O, / O, % O }.", () -> {
+            value("64/4/2", 8);
+            value("7*5%4", 3);
+            value("7%4*5", 15);
+            value("9/2*2", 8);
+            value("9*-2", -18);
+            lots();
+            fault("v*", 2);
+            fault("*v", 0);
+            fault("v+*v", 2);
+            fault("v*/v", 2);
+            fault("v%%v", 2);
         });
         test("O = a number (1 to 4 digits), a NAME, ! O, - O, ( E ).", () -> {
             value("0", 0);
@@ -318,15 +352,18 @@ final class PeopleLawDraws extends Boundaries {
     }
 
     private static void values() {
-        test("Ints that wrap; / and % toward 0, by 0 they give 0; | & < = > ! give 1, 0; all is worked out.", () -> {
+        test("Ints that wrap;", () -> {
             value("9999*9999*9999>0", 9999 * 9999 * 9999 > 0 ? 1 : 0);
             value("9999*9999*9999%100", 9999 * 9999 * 9999 % 100);
             value("8192*8192*32<0", 1);
             value("8192*8192*32-1>0", 1);
-            value("-(8192*8192*32)<0", 1);
+            value("8192*8192*32+8192*8192*32", 0);
+            value("8192*8192*32=-(8192*8192*32)", 1);
             value("8192*8192*32/-1<0", 1);
             value("8192*8192*32%-1", 0);
             value("0-8192*8192*32-1>0", 1);
+        });
+        test("/ and % toward 0, by 0 they give 0;", () -> {
             value("7/2", 3);
             value("-7/2", -3);
             value("7/-2", -3);
@@ -334,11 +371,17 @@ final class PeopleLawDraws extends Boundaries {
             value("7%4", 3);
             value("-7%4", -3);
             value("7%-4", 3);
+            value("-7%-4", -3);
+            value("1/2", 0);
+            value("-1/2", 0);
             value("7/0", 0);
             value("-7/0", 0);
             value("0/0", 0);
             value("7%0", 0);
+            value("0%0", 0);
             value("-7%(v-50)", 0);
+        });
+        test("| & < = > ! give 1, 0; all is worked out.", () -> {
             value("5|0", 1);
             value("0|-5", 1);
             value("5|7", 1);
@@ -349,6 +392,7 @@ final class PeopleLawDraws extends Boundaries {
             value("2<3", 1);
             value("3<3", 0);
             value("3<2", 0);
+            value("-1<0", 1);
             value("3=3", 1);
             value("3=2", 0);
             value("3>3", 0);
