@@ -250,6 +250,9 @@ final class InThought extends Boundaries {
             x.cancels(20 * 2 + 3);
             x.cancels(1);
             is("none is IN", x.cancel(1), NOT);
+            lots(0, 0, 0, 0, 1, 0, 2, 0, 3, 1, 3, 1, 4, 1);
+            law("n=2?50;n");
+            is("both out, not one", x.cancel(1), 20 * 4 + 5);
         });
         test("(m as many as are IN then at most; of like ones the first): likewise; NOT.", () -> {
             lots(0, 0, 0, 0, 1, 1, 1, 1);

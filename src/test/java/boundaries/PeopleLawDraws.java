@@ -463,6 +463,7 @@ final class PeopleLawDraws extends Boundaries {
             fault("((((((", 6);
             fault("v+".repeat(60), 120);
             fault("v+".repeat(59) + "v;", 120);
+            lots();
             fault("v+".repeat(59) + "vx", 119);
             fault("v".repeat(120), 1);
             law("v+".repeat(58) + "v?v");
